@@ -21,6 +21,7 @@ final class ChangeTest {
         promise14PayRefuses();
         promise15Undo();
         promise15NineChanges();
+        promise15And17Inspected();
         promise15ExceptionsAreNoChanges();
         promise16Save();
         promise17Restore();
@@ -448,6 +449,28 @@ final class ChangeTest {
         Check.due("the output stays", "bob:6000", Check.output(x));
         Check.due("the input stays", 1, x.play());
         Check.due("it is read", 1, x.clock());
+    }
+
+    private static void promise15And17Inspected() {
+        TicketCheck x = new TicketCheck();
+        x.buy(2, 1, 7);
+        x.ride(2, 0, 7, 0);
+        x.inspect(2);
+        x.save(0);
+        x.waitFor(1);
+        x.undo();
+        Check.dueThrow("inspected before the undone change", x, Check.NOT_NOW, () -> x.inspect(2));
+        x.undo();
+        Check.due("the undone inspection can be made again", 0, x.inspect(2));
+        x.undo();
+        x.restore(0);
+        Check.dueThrow("inspected before the saving", x, Check.NOT_NOW, () -> x.inspect(2));
+        TicketCheck y = withCase();
+        y.pay(0);
+        y.undo();
+        y.undo();
+        y.inspect(0);
+        Check.due("a case in the place of a paid one is open", TicketCheck.OPEN, y.caseState(0));
     }
 
     private static void promise15NineChanges() {

@@ -17,6 +17,8 @@ final class TextTest {
         promise5Play();
         promise5PlayEveryCommand();
         promise6And7Latest();
+        nothingIsLeftOver();
+        textsThatAreCutOff();
         syntaxErrorsOfSetups();
         syntaxErrorsOfCommands();
         rangeErrorsOfSetups();
@@ -274,6 +276,48 @@ final class TextTest {
         Check.load(x, Check.SMALL);
         Check.due("a good load has no code", 0, x.errorCode());
         Check.due("a good load has no offset", -1, x.errorOffset());
+    }
+
+    /** What an earlier load() or play() did must not show in a later one. */
+    private static void nothingIsLeftOver() {
+        TicketCheck x = new TicketCheck();
+        String used = "buy ann day 7;ride ann 0 7 with 0;inspect ann;ride cy 0 7;inspect cy;pay 0;wait 50;";
+        Check.due("a script", 7, Check.play(x, used));
+        Check.due("a script that fails late", -1, Check.play(x, "wait 50;pay 0;"));
+        Check.due("a load", 1, Check.load(x, "line 0 1;passenger a 9000;"));
+        Check.due("its clock", 0, x.clock());
+        Check.due("its tickets", 0, x.ticketCount());
+        Check.due("its fines", 0, x.finesPaid());
+        Check.due("its inspections", 0, x.inspections());
+        Check.due("a case in the place of a paid one", 2, Check.play(x, "ride a 0 1;inspect a;"));
+        Check.due("it is open", TicketCheck.OPEN, x.caseState(0));
+        Check.due("a ticket in the place of a stamped one", 1, Check.play(x, "buy a day 7;"));
+        Check.due("it is not stamped", -1, x.stampTime(0));
+        Check.due("a ride that is inspected stays so", -1, Check.play(x, "inspect a;"));
+        Check.due("code 6", 6, x.errorCode());
+    }
+
+    /** The bytes behind the end of the text are still in the buffer, but they must not be read. */
+    private static void textsThatAreCutOff() {
+        cutOff("wait 1", "2;");
+        cutOff("buy ann day 1", "2;");
+        cutOff("buy ann day", "s");
+        cutOff("ride ann 0 1 with", "out");
+        cutOff("wait 1", ";");
+        TicketCheck x = new TicketCheck();
+        Check.due("a word up to the last byte", -1, Check.play(x, " ".repeat(697) + "buy"));
+        Check.due("ends at 700", 700, x.errorOffset());
+        Check.due("a number up to the last byte", -1, Check.play(x, " ".repeat(693) + "wait 55"));
+        Check.due("ends at 700, too", 700, x.errorOffset());
+    }
+
+    private static void cutOff(String text, String rest) {
+        TicketCheck x = new TicketCheck();
+        Check.feed(x, text + rest);
+        x.truncateInput(text.length());
+        Check.due(text + " alone", -1, x.play());
+        Check.due(text + " ends too early", 1, x.errorCode());
+        Check.due(text + " ends where it is cut off", text.length(), x.errorOffset());
     }
 
     /** The sign ^ stands before the token that is wrong; it is no part of the text. */
