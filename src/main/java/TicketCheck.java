@@ -643,7 +643,7 @@ public final class TicketCheck {
         int passenger;
         int fault;
         int time;
-        /** The zones of the inspected ride: the passenger's latest ride may be another one by the decision. */
+        /** Of the inspected ride; the passenger's latest ride may be another one by the decision. */
         int zones;
         int state;
         int amount;
@@ -987,28 +987,20 @@ public final class TicketCheck {
             if (tokenStart >= length) {
                 token = END;
             } else if (isLetter(text[tokenStart])) {
-                scanWord();
+                token = WORD;
+                while (tokenEnd < length && isLetter(text[tokenEnd])) {
+                    tokenEnd++;
+                }
             } else if (isDigit(text[tokenStart])) {
-                scanNumber();
+                token = NUMBER;
+                number = 0;
+                while (tokenEnd < length && isDigit(text[tokenEnd])) {
+                    number = Math.min(HUGE, number * 10 + text[tokenEnd] - '0');
+                    tokenEnd++;
+                }
             } else {
                 token = text[tokenStart] == ';' ? SEMICOLON : NO_TOKEN;
                 tokenEnd = tokenStart + 1;
-            }
-        }
-
-        void scanWord() {
-            token = WORD;
-            while (tokenEnd < length && isLetter(text[tokenEnd])) {
-                tokenEnd++;
-            }
-        }
-
-        void scanNumber() {
-            token = NUMBER;
-            number = 0;
-            while (tokenEnd < length && isDigit(text[tokenEnd])) {
-                number = Math.min(HUGE, number * 10 + text[tokenEnd] - '0');
-                tokenEnd++;
             }
         }
 
@@ -1190,30 +1182,26 @@ public final class TicketCheck {
         int readCommands() {
             int count = 0;
             while (count < MAX_INPUT && !failed() && token != END) {
-                readCommand();
+                if (tokenIs("buy")) {
+                    readBuy();
+                } else if (tokenIs("ride")) {
+                    readRide();
+                } else if (tokenIs("inspect")) {
+                    readInspect();
+                } else if (tokenIs("wait")) {
+                    readWait();
+                } else if (tokenIs("appeal")) {
+                    readAppeal();
+                } else if (tokenIs("decide")) {
+                    readDecide();
+                } else if (tokenIs("pay")) {
+                    readPay();
+                } else {
+                    fail(SYNTAX);
+                }
                 count++;
             }
             return count;
-        }
-
-        void readCommand() {
-            if (tokenIs("buy")) {
-                readBuy();
-            } else if (tokenIs("ride")) {
-                readRide();
-            } else if (tokenIs("inspect")) {
-                readInspect();
-            } else if (tokenIs("wait")) {
-                readWait();
-            } else if (tokenIs("appeal")) {
-                readAppeal();
-            } else if (tokenIs("decide")) {
-                readDecide();
-            } else if (tokenIs("pay")) {
-                readPay();
-            } else {
-                fail(SYNTAX);
-            }
         }
 
         void readBuy() {
