@@ -36,14 +36,6 @@ final class ChangeTest {
         return x;
     }
 
-    private static void waitLong(TicketCheck x, int minutes) {
-        int left = minutes;
-        while (left > 0) {
-            x.waitFor(Math.min(left, 9999));
-            left -= Math.min(left, 9999);
-        }
-    }
-
     private static void promise8Buy() {
         TicketCheck x = new TicketCheck();
         Check.due("the first ticket", 0, x.buy(2, TicketCheck.SINGLE, 11));
@@ -109,7 +101,7 @@ final class ChangeTest {
         Check.due("a ride from another stop than the last one", 19, x.ride(0, 0, 1, -1));
         Check.due("a ride without a ticket counts for none", 2, x.ticketRides(0));
         TicketCheck y = new TicketCheck();
-        waitLong(y, 99999);
+        Check.waitLong(y, 99999);
         Check.due("a ride may end after 99999", 100013, y.ride(0, 0, 7, -1));
         Check.due("still on the tram", true, y.isRiding(0));
     }
@@ -216,7 +208,7 @@ final class ChangeTest {
             Check.dueThrow("minutes", x, Check.BAD, () -> x.waitFor(minutes));
         }
         Check.due("waiting is a change", 2, x.undoableChanges());
-        waitLong(x, 89990);
+        Check.waitLong(x, 89990);
         Check.due("near the end", 99990, x.clock());
         Check.dueThrow("one minute too many", x, Check.NOT_NOW, () -> x.waitFor(10));
         Check.dueThrow("many minutes too many", x, Check.NOT_NOW, () -> x.waitFor(9999));
@@ -271,7 +263,7 @@ final class ChangeTest {
         Check.dueThrow("paid", x, Check.NOT_NOW, () -> x.appeal(0, 0));
         TicketCheck y = withCase();
         y.buy(0, 1, 7);
-        waitLong(y, 20161);
+        Check.waitLong(y, 20161);
         Check.dueThrow("overdue", y, Check.NOT_NOW, () -> y.appeal(0, 0));
         y.undo();
         y.waitFor(162);
@@ -304,7 +296,7 @@ final class ChangeTest {
         x.undo();
         Check.due("undone", TicketCheck.APPEALED, x.caseState(0));
         Check.due("6000 again", 6000, x.amountDue(0));
-        waitLong(x, 30000);
+        Check.waitLong(x, 30000);
         Check.due("an overdue case can be decided", TicketCheck.REDUCED, x.decide(0));
         Check.due("it costs 1500 more", 2200, x.amountDue(0));
         TicketCheck y = new TicketCheck();
@@ -378,7 +370,7 @@ final class ChangeTest {
         x.decide(0);
         Check.due("a rejected case", 6500, x.pay(0));
         x.undo();
-        waitLong(x, 20160);
+        Check.waitLong(x, 20160);
         Check.due("14 days later", 6500, x.pay(0));
         x.undo();
         x.waitFor(1);
@@ -389,10 +381,10 @@ final class ChangeTest {
         y.decide(0);
         Check.due("a reduced case", 700, y.pay(0));
         y.undo();
-        waitLong(y, 20161);
+        Check.waitLong(y, 20161);
         Check.due("an overdue reduced case", 2200, y.pay(0));
         TicketCheck z = withCase();
-        waitLong(z, 20161);
+        Check.waitLong(z, 20161);
         Check.due("an overdue open case", 7500, z.pay(0));
         TicketCheck exact = Check.loaded("line 0 1;passenger a 6000;ride a 0 1;inspect a;");
         Check.due("the last cents", 6000, exact.pay(0));
@@ -412,7 +404,7 @@ final class ChangeTest {
         Check.dueThrow("paid", x, Check.NOT_NOW, () -> x.pay(0));
         TicketCheck y = Check.loaded("line 0 1;passenger a 5999;passenger b 7499;ride a 0 1;inspect a;ride b 0 1;inspect b;");
         Check.dueThrow("a cent is missing", y, Check.NOT_NOW, () -> y.pay(0));
-        waitLong(y, 20161);
+        Check.waitLong(y, 20161);
         Check.dueThrow("a cent is missing when it is overdue", y, Check.NOT_NOW, () -> y.pay(1));
         y.undo();
         y.waitFor(162);

@@ -5,6 +5,11 @@ final class Check {
         Object run();
     }
 
+    /** A call with the number of a stop, a passenger, a ticket or a case. */
+    interface Numbered {
+        Object run(int number);
+    }
+
     static final Class<IndexOutOfBoundsException> NO_SUCH = IndexOutOfBoundsException.class;
     static final Class<IllegalArgumentException> BAD = IllegalArgumentException.class;
     static final Class<IllegalStateException> NOT_NOW = IllegalStateException.class;
@@ -12,8 +17,19 @@ final class Check {
     /** A short line for texts: one passenger with 1000 cents. */
     static final String SMALL = "line 0 1;passenger a 1000;";
 
+    /** The setup that makes the state of a new object. */
+    static final String DEFAULT =
+            "line 0 0 0 1 1 1 2 2; passenger ann 9000; passenger bob 1200; passenger cy 20000;";
+
+    /** The clock is 99999 behind this. */
+    static final String TO_THE_END = "wait 9999;".repeat(10) + "wait 9;";
+
+    /** A case is not overdue behind this, but a minute later. */
+    static final String FOURTEEN_DAYS = "wait 9999;wait 9999;wait 162;";
+
     private static int wrong = 0;
     private static int made = 0;
+    private static String about = "";
 
     private Check() {
     }
@@ -22,8 +38,17 @@ final class Check {
         made++;
         if (!want.equals(got)) {
             wrong++;
-            System.out.println(what + ": answered " + got + ", due is " + want);
+            System.out.println(about + what + ": answered " + got + ", due is " + want);
         }
+    }
+
+    /** Goes before the reports of all comparisons from now on. */
+    static void about(String words) {
+        about = words + "\n    ";
+    }
+
+    static int made() {
+        return made;
     }
 
     /** The call must throw exactly this exception and change nothing that can be asked. */
@@ -31,6 +56,17 @@ final class Check {
         String before = picture(x);
         due(what, "throws " + want.getName(), answer(call));
         due(what + " changes nothing", before, picture(x));
+    }
+
+    /** The numbers from 0 to count - 1 are there, and no other ones. */
+    static void dueNumbers(String what, TicketCheck x, int count, Numbered call) {
+        for (int number = 0; number < count; number++) {
+            int there = number;
+            due(what + " of " + number + " is there", false, answer(() -> call.run(there)).startsWith("throws"));
+        }
+        for (int number : new int[] {-1, count, Integer.MIN_VALUE, Integer.MAX_VALUE}) {
+            dueThrow(what + " of " + number, x, NO_SUCH, () -> call.run(number));
+        }
     }
 
     static String answer(Call call) {
@@ -82,6 +118,59 @@ final class Check {
             throw new AssertionError(text + ": code " + x.errorCode() + " at " + x.errorOffset());
         }
         return x;
+    }
+
+    /** A new object behind a script that must be good. */
+    static TicketCheck played(String script) {
+        TicketCheck x = new TicketCheck();
+        more(x, script);
+        return x;
+    }
+
+    static void more(TicketCheck x, String script) {
+        if (play(x, script) == TicketCheck.NONE) {
+            throw new AssertionError(script + ": code " + x.errorCode() + " at " + x.errorOffset());
+        }
+    }
+
+    static void waitLong(TicketCheck x, int minutes) {
+        int left = minutes;
+        while (left > 0) {
+            x.waitFor(Math.min(left, 9999));
+            left -= Math.min(left, 9999);
+        }
+    }
+
+    /** The sign ^ stands before the token that is wrong; it is no part of the text. */
+    static void setupFails(int code, String marked) {
+        TicketCheck x = new TicketCheck();
+        String before = statePicture(x);
+        due("load " + marked, TicketCheck.NONE, load(x, marked.replace("^", "")));
+        dueError(x, code, marked, before);
+    }
+
+    /** A script for the new object, and the same behind a setup that makes the same state. */
+    static void scriptFails(int code, String marked) {
+        TicketCheck x = new TicketCheck();
+        String before = statePicture(x);
+        due("play " + marked, TicketCheck.NONE, play(x, marked.replace("^", "")));
+        dueError(x, code, marked, before);
+        setupFails(code, DEFAULT + marked);
+    }
+
+    private static void dueError(TicketCheck x, int code, String marked, String before) {
+        due("code of " + marked, code, x.errorCode());
+        due("offset of " + marked, marked.indexOf('^'), x.errorOffset());
+        due("state after " + marked, before, statePicture(x));
+        due("changes after " + marked, 0, x.undoableChanges());
+    }
+
+    static String name(TicketCheck x, int passenger) {
+        StringBuilder name = new StringBuilder();
+        for (int i = 0; x.nameByte(passenger, i) != TicketCheck.NONE; i++) {
+            name.append((char) x.nameByte(passenger, i));
+        }
+        return name.toString();
     }
 
     /** The output without writing it anew. */

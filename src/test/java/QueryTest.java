@@ -2,11 +2,6 @@
 final class QueryTest {
     private static final int[] NO_NUMBERS = {-1, Integer.MIN_VALUE, Integer.MAX_VALUE};
 
-    /** A call with the number of a stop, a passenger, a ticket or a case. */
-    private interface Numbered {
-        Object run(int number);
-    }
-
     public static void main(String[] args) {
         promise18To24Counts();
         promise25Zone();
@@ -474,37 +469,28 @@ final class QueryTest {
     private static void wrongNumbers() {
         TicketCheck x = new TicketCheck();
         Check.play(x, "buy cy day 1;buy cy day 1;ride cy 3 4 with 0;inspect cy;");
-        refuses(x, 8, x::zone);
-        refuses(x, 3, x::money);
-        refuses(x, 3, x::isRiding);
-        refuses(x, 3, x::rideEnd);
-        refuses(x, 3, x::rideTicket);
-        refuses(x, 3, x::faultNow);
-        refuses(x, 3, x::debt);
-        refuses(x, 3, x::unpaidCases);
-        refuses(x, 2, x::ticketHolder);
-        refuses(x, 2, x::ticketKind);
-        refuses(x, 2, x::ticketZones);
-        refuses(x, 2, x::ticketPrice);
-        refuses(x, 2, x::stampTime);
-        refuses(x, 2, x::stampStop);
-        refuses(x, 2, x::ticketRides);
-        refuses(x, 2, x::isInTime);
-        refuses(x, 1, x::casePassenger);
-        refuses(x, 1, x::caseFault);
-        refuses(x, 1, x::caseState);
-        refuses(x, 1, x::caseTime);
-        refuses(x, 1, x::amountDue);
-        refuses(x, 1, x::caseTicket);
-        refuses(x, 1, x::isOverdue);
-    }
-
-    /** The numbers from 0 to count - 1 are there, and no other ones. */
-    private static void refuses(TicketCheck x, int count, Numbered call) {
-        Check.due("the last number", false, Check.answer(() -> call.run(count - 1)).startsWith("throws"));
-        Check.dueThrow("behind the last number", x, Check.NO_SUCH, () -> call.run(count));
-        for (int no : NO_NUMBERS) {
-            Check.dueThrow("number " + no, x, Check.NO_SUCH, () -> call.run(no));
-        }
+        Check.dueNumbers("zone", x, 8, x::zone);
+        Check.dueNumbers("money", x, 3, x::money);
+        Check.dueNumbers("isRiding", x, 3, x::isRiding);
+        Check.dueNumbers("rideEnd", x, 3, x::rideEnd);
+        Check.dueNumbers("rideTicket", x, 3, x::rideTicket);
+        Check.dueNumbers("faultNow", x, 3, x::faultNow);
+        Check.dueNumbers("debt", x, 3, x::debt);
+        Check.dueNumbers("unpaidCases", x, 3, x::unpaidCases);
+        Check.dueNumbers("ticketHolder", x, 2, x::ticketHolder);
+        Check.dueNumbers("ticketKind", x, 2, x::ticketKind);
+        Check.dueNumbers("ticketZones", x, 2, x::ticketZones);
+        Check.dueNumbers("ticketPrice", x, 2, x::ticketPrice);
+        Check.dueNumbers("stampTime", x, 2, x::stampTime);
+        Check.dueNumbers("stampStop", x, 2, x::stampStop);
+        Check.dueNumbers("ticketRides", x, 2, x::ticketRides);
+        Check.dueNumbers("isInTime", x, 2, x::isInTime);
+        Check.dueNumbers("casePassenger", x, 1, x::casePassenger);
+        Check.dueNumbers("caseFault", x, 1, x::caseFault);
+        Check.dueNumbers("caseState", x, 1, x::caseState);
+        Check.dueNumbers("caseTime", x, 1, x::caseTime);
+        Check.dueNumbers("amountDue", x, 1, x::amountDue);
+        Check.dueNumbers("caseTicket", x, 1, x::caseTicket);
+        Check.dueNumbers("isOverdue", x, 1, x::isOverdue);
     }
 }

@@ -2,9 +2,6 @@ import java.util.Arrays;
 
 /** Promises 1 to 7: the new object, the input buffer, load() and play() with their errors. */
 final class TextTest {
-    private static final String DEFAULT =
-            "line 0 0 0 1 1 1 2 2; passenger ann 9000; passenger bob 1200; passenger cy 20000;";
-
     public static void main(String[] args) {
         promise1NewObject();
         promise2Append();
@@ -42,7 +39,7 @@ final class TextTest {
         Check.dueThrow("a new object has nothing in slot 0", x, Check.NOT_NOW, () -> x.restore(0));
         Check.dueThrow("a new object has nothing in slot 1", x, Check.NOT_NOW, () -> x.restore(1));
         Check.dueThrow("a new object has nothing to undo", x, Check.NOT_NOW, () -> x.undo());
-        Check.due("the state is that of the text", Check.statePicture(Check.loaded(DEFAULT)), Check.statePicture(x));
+        Check.due("the state is that of the text", Check.statePicture(Check.loaded(Check.DEFAULT)), Check.statePicture(x));
         int[] zones = {0, 0, 0, 1, 1, 1, 2, 2};
         Check.due("stops", zones.length, x.stopCount());
         for (int i = 0; i < zones.length; i++) {
@@ -52,17 +49,9 @@ final class TextTest {
         Check.due("money of ann", 9000, x.money(0));
         Check.due("money of bob", 1200, x.money(1));
         Check.due("money of cy", 20000, x.money(2));
-        Check.due("ann", "ann", name(x, 0));
-        Check.due("bob", "bob", name(x, 1));
-        Check.due("cy", "cy", name(x, 2));
-    }
-
-    private static String name(TicketCheck x, int passenger) {
-        StringBuilder name = new StringBuilder();
-        for (int i = 0; x.nameByte(passenger, i) != -1; i++) {
-            name.append((char) x.nameByte(passenger, i));
-        }
-        return name.toString();
+        Check.due("ann", "ann", Check.name(x, 0));
+        Check.due("bob", "bob", Check.name(x, 1));
+        Check.due("cy", "cy", Check.name(x, 2));
     }
 
     private static void promise2Append() {
@@ -94,7 +83,7 @@ final class TextTest {
             x.append(w[0], w[1], w[2], w[3], w[4]);
         }
         Check.due("the most significant byte goes first", 1, x.load());
-        Check.due("the name came whole", "abcdef", name(x, 0));
+        Check.due("the name came whole", "abcdef", Check.name(x, 0));
         Check.due("the number came whole", 12345, x.money(0));
         for (int place = 0; place < 20; place++) {
             int[] w = new int[5];
@@ -163,7 +152,7 @@ final class TextTest {
         Check.due("12 stops", 12, x.stopCount());
         Check.due("the last stop's zone", 3, x.zone(11));
         Check.due("the last passenger's money", 99999, x.money(7));
-        Check.due("the last passenger's name", "abcdef", name(x, 7));
+        Check.due("the last passenger's name", "abcdef", Check.name(x, 7));
         Check.due("the first passenger's money", 0, x.money(0));
         Check.due("a full buffer", 1, Check.load(x, Check.SMALL + " ".repeat(700 - Check.SMALL.length())));
         String front = "line 0 1;passenger a ";
@@ -196,7 +185,7 @@ final class TextTest {
 
     private static void promise4And5EmptyTheBuffer() {
         TicketCheck x = new TicketCheck();
-        Check.load(x, DEFAULT);
+        Check.load(x, Check.DEFAULT);
         Check.dueThrow("load empties the buffer", x, Check.BAD, () -> x.truncateInput(1));
         Check.load(x, "line 0 x");
         Check.dueThrow("load empties it after an error", x, Check.BAD, () -> x.truncateInput(1));
@@ -320,29 +309,6 @@ final class TextTest {
         Check.due(text + " ends where it is cut off", text.length(), x.errorOffset());
     }
 
-    /** The sign ^ stands before the token that is wrong; it is no part of the text. */
-    private static void setupFails(int code, String marked) {
-        TicketCheck x = new TicketCheck();
-        String before = Check.statePicture(x);
-        Check.due("load " + marked, -1, Check.load(x, marked.replace("^", "")));
-        Check.due("code of " + marked, code, x.errorCode());
-        Check.due("offset of " + marked, marked.indexOf('^'), x.errorOffset());
-        Check.due("state after " + marked, before, Check.statePicture(x));
-        Check.due("changes after " + marked, 0, x.undoableChanges());
-    }
-
-    /** A script for the new object, and the same behind a setup that makes the same state. */
-    private static void scriptFails(int code, String marked) {
-        TicketCheck x = new TicketCheck();
-        String before = Check.statePicture(x);
-        Check.due("play " + marked, -1, Check.play(x, marked.replace("^", "")));
-        Check.due("code of " + marked, code, x.errorCode());
-        Check.due("offset of " + marked, marked.indexOf('^'), x.errorOffset());
-        Check.due("state after " + marked, before, Check.statePicture(x));
-        Check.due("changes after " + marked, 0, x.undoableChanges());
-        setupFails(code, DEFAULT + marked);
-    }
-
     private static void syntaxErrorsOfSetups() {
         String[] texts = {
             "^", "   ^", "^;", "^7", "^lines 0 1;", "^lin 0 1;", "^Line 0 1;", "^passenger a 1;", "^linex 0 1;",
@@ -359,7 +325,7 @@ final class TextTest {
             "line 0^/1;", "line 0^:1;", "line 0 1;passenger a^` 1;", "line 0 1;passenger a^{ 1;",
         };
         for (String text : texts) {
-            setupFails(1, text);
+            Check.setupFails(1, text);
         }
     }
 
@@ -380,7 +346,7 @@ final class TextTest {
             "buy bob day 1;ride ann 0 1;inspect ann;pay 0 ^0;", "buy bob day 1;ride ann 0 1;inspect ann;pay 0 ^",
         };
         for (String text : texts) {
-            scriptFails(1, text);
+            Check.scriptFails(1, text);
         }
     }
 
@@ -391,7 +357,7 @@ final class TextTest {
             "line 0 1;passenger a ^100000;", "line 0 1;passenger a ^4294967297;", "line 0 1;passenger a 1;passenger b ^0100000",
         };
         for (String text : texts) {
-            setupFails(2, text);
+            Check.setupFails(2, text);
         }
     }
 
@@ -407,7 +373,7 @@ final class TextTest {
             "ride ann 0 1;inspect ann;decide ^1;", "ride ann 0 1;inspect ann;pay ^1;", "ride ann 0 1;inspect ann;pay ^4294967296;",
         };
         for (String text : texts) {
-            scriptFails(2, text);
+            Check.scriptFails(2, text);
         }
         Check.due("the clock may be 99999", 11, Check.play(new TicketCheck(), "wait 9999;".repeat(10) + "wait 9;"));
         Check.due("stop 7, zones 15", 2, Check.play(new TicketCheck(), "ride ann 7 0;buy cy day 15;"));
@@ -416,33 +382,33 @@ final class TextTest {
     }
 
     private static void nameErrors() {
-        scriptFails(3, "buy ^dan day 1;");
-        scriptFails(3, "buy ^an day 1;");
-        scriptFails(3, "buy ^anna day 1;");
-        scriptFails(3, "buy ^abcdef");
-        scriptFails(3, "buy ^single 1;");
-        scriptFails(3, "ride ^cyy 0 1;");
-        scriptFails(3, "inspect ^c;");
-        scriptFails(3, "wait 1;inspect ^inspec");
-        setupFails(4, "line 0 1;passenger a 1;passenger ^a 2;");
-        setupFails(4, "line 0 1;passenger ab 1;passenger b 1;passenger a 2;passenger ^ab");
-        setupFails(4, "line 0 1;passenger a 1;passenger abcdef 1;passenger ^abcdef 1;");
+        Check.scriptFails(3, "buy ^dan day 1;");
+        Check.scriptFails(3, "buy ^an day 1;");
+        Check.scriptFails(3, "buy ^anna day 1;");
+        Check.scriptFails(3, "buy ^abcdef");
+        Check.scriptFails(3, "buy ^single 1;");
+        Check.scriptFails(3, "ride ^cyy 0 1;");
+        Check.scriptFails(3, "inspect ^c;");
+        Check.scriptFails(3, "wait 1;inspect ^inspec");
+        Check.setupFails(4, "line 0 1;passenger a 1;passenger ^a 2;");
+        Check.setupFails(4, "line 0 1;passenger ab 1;passenger b 1;passenger a 2;passenger ^ab");
+        Check.setupFails(4, "line 0 1;passenger a 1;passenger abcdef 1;passenger ^abcdef 1;");
         Check.due("the names of the line before are free", 1, Check.load(new TicketCheck(), "line 0 1;passenger ann 1;"));
-        setupFails(3, "line 0 1;passenger a 1;inspect ^ann;");
+        Check.setupFails(3, "line 0 1;passenger a 1;inspect ^ann;");
     }
 
     private static void tooManyErrors() {
         String twelve = "line 0 1 2 3 0 1 2 3 0 1 2 3";
-        setupFails(5, twelve + " ^0;passenger a 1;");
-        setupFails(5, twelve + " ^3");
-        setupFails(5, twelve + " ^0003 0 0 0");
+        Check.setupFails(5, twelve + " ^0;passenger a 1;");
+        Check.setupFails(5, twelve + " ^3");
+        Check.setupFails(5, twelve + " ^0003 0 0 0");
         String eight = "line 0 1;passenger a 0;passenger b 0;passenger c 0;passenger d 0;"
                 + "passenger e 0;passenger f 0;passenger g 0;passenger h 0;";
-        setupFails(5, eight + "^passenger i 0;");
-        setupFails(5, eight + "^passenger");
-        setupFails(5, eight + "^passenger a 0;");
-        setupFails(1, eight + "^passengers i 0;");
-        setupFails(1, eight + "wait 1;^passenger i 0;");
+        Check.setupFails(5, eight + "^passenger i 0;");
+        Check.setupFails(5, eight + "^passenger");
+        Check.setupFails(5, eight + "^passenger a 0;");
+        Check.setupFails(1, eight + "^passengers i 0;");
+        Check.setupFails(1, eight + "wait 1;^passenger i 0;");
     }
 
     private static void notPossibleErrors() {
@@ -457,7 +423,7 @@ final class TextTest {
             "ride ann 0 1;inspect ann;buy bob day 1;wait 9999;wait 9999;wait 163;appeal 0 0^;",
         };
         for (String text : texts) {
-            scriptFails(6, text);
+            Check.scriptFails(6, text);
         }
         Check.due("not yet overdue", 7, Check.play(new TicketCheck(),
                 "ride ann 0 1;inspect ann;buy bob day 1;wait 9999;wait 9999;wait 162;appeal 0 0;"));
@@ -465,13 +431,13 @@ final class TextTest {
     }
 
     private static void lowestCodeGoesFirst() {
-        setupFails(1, "line 0 1;passenger abcdef 1;passenger ^abcdefg 1;");
-        scriptFails(1, "inspect ^abcdefgh;");
-        setupFails(2, "line 0 1 2 3 0 1 2 3 0 1 2 3 ^4;");
-        setupFails(2, "line 0 1 2 3 0 1 2 3 0 1 2 3 ^99999999999;");
-        setupFails(1, "line 0 1 2 3 0 1 2 3 0 1 2 3 ^a;");
-        scriptFails(1, "inspect ann^");
-        scriptFails(1, "buy bob day 15 ^with;");
+        Check.setupFails(1, "line 0 1;passenger abcdef 1;passenger ^abcdefg 1;");
+        Check.scriptFails(1, "inspect ^abcdefgh;");
+        Check.setupFails(2, "line 0 1 2 3 0 1 2 3 0 1 2 3 ^4;");
+        Check.setupFails(2, "line 0 1 2 3 0 1 2 3 0 1 2 3 ^99999999999;");
+        Check.setupFails(1, "line 0 1 2 3 0 1 2 3 0 1 2 3 ^a;");
+        Check.scriptFails(1, "inspect ann^");
+        Check.scriptFails(1, "buy bob day 15 ^with;");
     }
 
     private static void namesAndSpaces() {
