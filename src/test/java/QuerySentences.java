@@ -411,7 +411,8 @@ final class QuerySentences {
         Check.due("of the first", 1, x.caseFault(0));
         Check.due("of the last", 3, x.caseFault(1));
         caseFaultIs(2, "buy ann day 7;wait 1430;ride ann 0 7 with 0;wait 10;inspect ann;wait 9;");
-        caseFaultIs(4, "buy ann single 1;" + "ride ann 0 1 with 0;wait 2;".repeat(3) + "ride ann 0 1 with 0;inspect ann;wait 60;");
+        caseFaultIs(4, "buy ann single 1;" + "ride ann 0 1 with 0;wait 2;".repeat(3)
+                + "ride ann 0 1 with 0;inspect ann;wait 60;");
         caseFaultIs(5, "buy ann short 7;ride ann 0 5 with 0;inspect ann;pay 0;");
         missing(NO_CASE, x, 2, x::caseFault);
     }
