@@ -292,6 +292,7 @@ final class QuerySentences {
         Check.due("four zones", TicketCheck.SHORT, x.cheapestKind(5, 8));
         Check.due("far, in one zone", TicketCheck.SINGLE, x.cheapestKind(0, 5));
         Check.due("far, in four zones", TicketCheck.SINGLE, x.cheapestKind(11, 0));
+        Check.due("one stop is the first and the last one", TicketCheck.SHORT, x.cheapestKind(6, 6));
         Document.sentence("Short is left out if the last stop is more than 4 stops away; how long the ride takes does not "
                 + "matter.");
         Check.due("4 stops", TicketCheck.SHORT, x.cheapestKind(2, 6));

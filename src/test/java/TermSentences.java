@@ -110,6 +110,19 @@ final class TermSentences {
         Check.more(x, Check.TO_THE_END);
         Check.due("at last", 99999, x.clock());
         Check.dueThrow("no minute more", x, Check.NOT_NOW, () -> x.waitFor(1));
+        rideOverTheEnd();
+    }
+
+    /** The clock ends at 99999; that a ride may not end later is said nowhere. */
+    private static void rideOverTheEnd() {
+        TicketCheck x = Check.played(Check.TO_THE_END + "ride ann 0 1;");
+        Check.due("a ride of a script that ends later", 100001, x.rideEnd(0));
+        Check.due("it has begun", true, x.isRiding(0));
+        Check.due("the same by a call", 100001, x.ride(1, 1, 0, NONE));
+        Check.due("an inspection in the last minute", 1, x.inspect(1));
+        Check.due("the time of its case", 99999, x.caseTime(0));
+        Check.dueThrow("no other ride before the end", x, Check.NOT_NOW, () -> x.ride(0, 1, 2, NONE));
+        Check.dueThrow("no minute more for it", x, Check.NOT_NOW, () -> x.waitFor(1));
     }
 
     private static void day() {
@@ -836,6 +849,10 @@ final class TermSentences {
         Check.due("up to 99999", 99999, Check.played(Check.TO_THE_END).clock());
         Check.scriptFails(2, Check.TO_THE_END + "wait ^1;");
         Check.scriptFails(2, "wait 9999;".repeat(10) + "wait ^10;");
+        Check.scriptFails(2, "wait 9999;".repeat(10) + "wait ^10");
+        Check.scriptFails(1, Check.TO_THE_END + "wait ^;");
+        Check.setupFails(2, Check.SMALL + "ride a 0 ^2;");
+        Check.setupFails(2, Check.SMALL + "ride a 0 ^99999999999999999999;");
     }
 
     private static void otherErrors() {
